@@ -551,9 +551,9 @@ public final class HandedLabels {
     }
 
     private void handNothing(int box) {
-      for (int side = 0; side < 2 * net.links; side++) {
-        for (int c = 0; net.owners[side] == box && c < CLASSES; c++) {
-          slipsHanded[slot(side, c)] = 0;
+      for (int i = 0; i < slot(2 * net.links, 0); i++) {
+        if (net.owners[i / CLASSES] == box) {
+          slipsHanded[i] = 0;
         }
       }
     }
@@ -633,10 +633,16 @@ public final class HandedLabels {
         counts[c] = countToHand(box, c);
       }
       for (int side = 0; side < 2 * net.links; side++) {
-        for (int c = 0; net.owners[side] == box && c < CLASSES; c++) {
-          boolean goes = counts[c] != NOT_HANDING && goesOver(side, c);
-          fresh[slot(side, c)] = goes ? slipWith(PLACE_HOLDER, counts[c]) : 0;
+        if (net.owners[side] == box) {
+          placeOver(side);
         }
+      }
+    }
+
+    private void placeOver(int side) {
+      for (int c = 0; c < CLASSES; c++) {
+        boolean goes = counts[c] != NOT_HANDING && goesOver(side, c);
+        fresh[slot(side, c)] = goes ? slipWith(PLACE_HOLDER, counts[c]) : 0;
       }
     }
 
@@ -690,9 +696,17 @@ public final class HandedLabels {
         }
       }
       for (int side = from; side < to; side++) {
-        for (int c = 0; net.owners[side] == box && c < CLASSES; c++) {
-          int slip = fresh[slot(side, c)];
-          fresh[slot(side, c)] = slip == 0 ? 0 : slipWith(rowLabels[c], countOf(slip));
+        if (net.owners[side] == box) {
+          labelOver(side);
+        }
+      }
+    }
+
+    private void labelOver(int side) {
+      for (int c = 0; c < CLASSES; c++) {
+        int slip = fresh[slot(side, c)];
+        if (slip != 0) {
+          fresh[slot(side, c)] = slipWith(rowLabels[c], countOf(slip));
         }
       }
     }
