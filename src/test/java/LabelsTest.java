@@ -31,6 +31,8 @@ public final class LabelsTest {
     promise15();
     promise15Linkwise();
     promise16();
+    firstPlace();
+    fullNet();
     due.finish();
   }
 
@@ -103,6 +105,67 @@ public final class LabelsTest {
     slip(x, "9: LINKWISE 1 as ahead", 1, 0, 0, 16, 2);
     x.mode(1, LINKWISE, 0);
     nothing(x, "9: LINKWISE back", 1, 0, 0);
+  }
+
+  /** The first BOX on the first LINK for the first CLASS, which a count from 1 on would miss. */
+  private static void firstPlace() {
+    HandedLabels x = new HandedLabels();
+    x.link(0, 1, 1);
+    x.end(0, 0);
+    x.mode(1, ASKED, 1);
+    x.mode(0, LINKWISE, 1);
+    x.ticks(3);
+    slip(x, "11: the first place, LINKWISE", 0, 0, 0, 16, 0);
+    due.is("21: one LABEL in all", x.many(6), 16);
+    due.is("21: one HANDED in all", x.many(2), 1);
+    due.is("15: 1 does not hand it", x.meaning(1, 0, 16), NONE);
+    x.mode(0, LINKWISE, 0);
+    nothing(x, "9: the first place", 0, 0, 0);
+    x.end(0, 1);
+    x.mode(1, ASKED, 0);
+    x.ticks(1);
+    slip(x, "11: the other end", 1, 0, 0, 16, 0);
+    due.is("15: 0 does not hand it", x.meaning(0, 0, 16), NONE);
+  }
+
+  /** BOX 6 in the middle of 0 .. 5, which stand in a ring: all 12 LINKS. */
+  private static void fullNet() {
+    HandedLabels x = new HandedLabels();
+    for (int box = 0; box < 6; box++) {
+      x.link(box, 6, 2);
+    }
+    for (int box = 0; box < 6; box++) {
+      x.link(box, (box + 1) % 6, 9);
+    }
+    for (int c = 0; c < 4; c++) {
+      x.end(c, 6);
+    }
+    due.is("21: full", x.many(0), 12);
+    due.is("21: full, all UP", x.many(1), 12);
+    due.is("16: full", x.settles(), 2);
+    due.is("11: full", x.ticks(20), 2);
+    due.is("21: all HANDED", x.many(2), 96);
+    due.is("21: all KEPT", x.many(3), 96);
+    due.is("21: the greatest", x.many(6), 19);
+    due.is("15: the last number", x.meaning(6, 5, 19), 3);
+    due.is("15: beyond it", x.meaning(6, 5, 20), NONE);
+    due.is("20: all merge", x.merged(6, 3), 0b111111);
+    due.is("19: all served", x.served(3, 2), 127);
+    for (int box = 0; box < 7; box++) {
+      due.is("9: full", x.mode(box, LINKWISE, 1), 0);
+      due.is("9: full", x.mode(box, SPARING, 1), 0);
+    }
+    due.is("21: none HANDED", x.many(2), 0);
+    due.is("11: full, LINKWISE", x.ticks(2), 1);
+    due.is("21: all HANDED again", x.many(2), 96);
+    due.is("21: KEPT from NEXT alone", x.many(3), 24);
+    slip(x, "11: full, the last place", 5, 11, 3, 19, 1);
+    x.up(11, 0);
+    nothing(x, "4: full, the last place", 5, 11, 3);
+    due.is("21: the last one DOWN", x.many(2), 88);
+    x.up(11, 1);
+    x.ticks(1);
+    slip(x, "11: full, the last place again", 0, 11, 3, 19, 1);
   }
 
   private static void promise10() {

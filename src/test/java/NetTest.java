@@ -25,7 +25,6 @@ public final class NetTest {
       due.is("1: many(" + what + ")", x.many(what), 0);
     }
     for (int c = 0; c < 4; c++) {
-      due.is("1: end(" + c + ", NONE)", x.end(c, NONE), NONE);
       for (int box = 0; box < 7; box++) {
         due.is("1: far", x.far(box, c), NONE);
         due.is("1: next", x.next(box, c), NONE);
@@ -33,6 +32,8 @@ public final class NetTest {
         due.is("1: merged", x.merged(box, c), 0);
       }
       due.is("1: served 1", x.served(c, 1), 127);
+      due.is("1: letter", new HandedLabels().letter(c, c), 1);
+      due.is("1: end(" + c + ", NONE)", x.end(c, NONE), NONE);
     }
     for (int box = 0; box < 7; box++) {
       for (int which = 0; which < 4; which++) {
