@@ -665,8 +665,8 @@ public final class HandedLabels {
       if (!net.isUpSide(side)) {
         return false;
       }
-      int box = net.owners[side];
-      return !has(box, ASKED) || net.nextBox(net.owners[side ^ 1], c) == box;
+      int beyond = net.owners[side ^ 1];
+      return !has(net.owners[side], ASKED) || net.nextSides[pair(beyond, c)] == (side ^ 1);
     }
 
     /** (c) of a TICK. */
