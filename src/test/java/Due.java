@@ -1,6 +1,7 @@
 /** Counts the answers that are not the ones that are due. */
 final class Due {
   private final String name;
+  private String test = "";
   private int wrong = 0;
   private int asked = 0;
 
@@ -8,11 +9,16 @@ final class Due {
     this.name = name;
   }
 
+  /** What is asked from now on belongs to this test. */
+  void begin(String ofTest) {
+    test = ofTest + ": ";
+  }
+
   void is(String call, long got, long want) {
     asked++;
     if (got != want) {
       wrong++;
-      System.out.println(name + ": " + call + " answered " + got + ", due is " + want);
+      System.out.println(name + ": " + test + call + " answered " + got + ", due is " + want);
     }
   }
 
@@ -20,8 +26,12 @@ final class Due {
     asked++;
     if (!holds) {
       wrong++;
-      System.out.println(name + ": does not hold: " + what);
+      System.out.println(name + ": " + test + "does not hold: " + what);
     }
+  }
+
+  int asked() {
+    return asked;
   }
 
   boolean anyWrong() {
