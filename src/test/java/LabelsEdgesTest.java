@@ -684,6 +684,26 @@ public final class LabelsEdgesTest {
     due.is("TICKS change as much", x.ticks(2), 2);
   }
 
+  /** The first TICK is done, the others are tried: each place is then as after the first. */
+  static void promise16_changesNothingInAnyPlace() {
+    HandedLabels x = Nets.wheel();
+    for (int c = 0; c < 4; c++) {
+      x.end(c, 5);
+    }
+    x.ticks(1);
+    due.yes("there is something to do", x.settles() > 0);
+    for (int l = 0; l < 12; l++) {
+      for (int c = 0; c < 4; c++) {
+        int lesser = x.ofLink(l, 0);
+        int greater = x.ofLink(l, 1);
+        due.is("HANDED, LINK " + l, x.handed(lesser, l, c, 0), lesser == 5 ? 16 + c : NONE);
+        due.is("HANDED, LINK " + l, x.handed(greater, l, c, 0), greater == 5 ? 16 + c : NONE);
+        due.is("KEPT, LINK " + l, x.kept(lesser, l, c, 0), greater == 5 ? 16 + c : NONE);
+        due.is("KEPT, LINK " + l, x.kept(greater, l, c, 0), lesser == 5 ? 16 + c : NONE);
+      }
+    }
+  }
+
   static void promise16_leavesWhatWasTold() {
     HandedLabels x = Nets.busy();
     int box = x.trace(1, 0);

@@ -576,6 +576,25 @@ public final class LettersEdgesTest {
     due.is("3 alone", x.many(6), 3);
   }
 
+  static void promise21_firstPlaceAlone() {
+    HandedLabels x = Nets.line(2);
+    x.mode(1, ASKED, 1);
+    x.end(0, 0);
+    x.ticks(3);
+    many(x, "BOX 0, LINK 0, CLASS 0", 1, 1, 1, 1, 1, 3, 16);
+  }
+
+  static void promise21_lastPlaceAlone() {
+    HandedLabels x = Nets.wheel();
+    for (int l = 0; l < 11; l++) {
+      x.up(l, 0);
+    }
+    x.mode(0, ASKED, 1);
+    x.end(3, 5);
+    x.ticks(3);
+    many(x, "BOX 5, LINK 11, CLASS 3", 12, 1, 1, 1, 1, 3, 16);
+  }
+
   static void promise21_greatestLabelOfThoseHandedNow() {
     HandedLabels x = Nets.line(2);
     for (int c = 0; c < 4; c++) {

@@ -26,6 +26,18 @@ public final class NetEdgesTest {
     }
   }
 
+  static void promise01_noWays() {
+    HandedLabels x = new HandedLabels();
+    for (int box = 0; box < 7; box++) {
+      for (int c = 0; c < 4; c++) {
+        due.is("FAR of " + box, x.far(box, c), NONE);
+        due.is("NEXT of " + box, x.next(box, c), NONE);
+        due.is("USED of " + box, x.used(box, c), NONE);
+        due.is("merged at " + box, x.merged(box, c), 0);
+      }
+    }
+  }
+
   static void promise01_nothingHandedOrKeptAtFirst() {
     HandedLabels x = Nets.wheel();
     for (int c = 0; c < 4; c++) {
@@ -688,6 +700,25 @@ public final class NetEdgesTest {
     due.is("the END", x.next(0, 0), NONE);
   }
 
+  static void promise07_ofAllClassesAsLinksAreNow() {
+    HandedLabels x = Nets.line(3);
+    for (int c = 0; c < 4; c++) {
+      x.end(c, 2);
+    }
+    x.link(0, 2, 1);
+    for (int c = 0; c < 4; c++) {
+      due.is("a LINK comes", x.next(0, c), 2);
+    }
+    x.cost(2, 9);
+    for (int c = 0; c < 4; c++) {
+      due.is("it costs more", x.next(0, c), 1);
+    }
+    x.up(0, 0);
+    for (int c = 0; c < 4; c++) {
+      due.is("another is DOWN", x.next(0, c), 2);
+    }
+  }
+
   // ---- promise 8: far
 
   static void promise08_boxTooSmall() {
@@ -769,6 +800,25 @@ public final class NetEdgesTest {
     x.end(0, 1);
     due.is("another END", x.far(0, 0), 8);
     due.is("for all BOXES", x.far(2, 0), 1);
+  }
+
+  static void promise08_ofAllClassesAsLinksAreNow() {
+    HandedLabels x = Nets.line(3);
+    for (int c = 0; c < 4; c++) {
+      x.end(c, 2);
+    }
+    x.cost(0, 8);
+    for (int c = 0; c < 4; c++) {
+      due.is("another COST", x.far(0, c), 9);
+    }
+    x.link(0, 2, 7);
+    for (int c = 0; c < 4; c++) {
+      due.is("another LINK", x.far(0, c), 7);
+    }
+    x.up(2, 0);
+    for (int c = 0; c < 4; c++) {
+      due.is("it is DOWN", x.far(0, c), 9);
+    }
   }
 
   static void promise08_eachClassForItself() {

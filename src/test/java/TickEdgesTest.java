@@ -656,6 +656,35 @@ public final class TickEdgesTest {
     slip(x, "CLASS 3 to 2, the same number", 1, 1, 3, 16, 1);
   }
 
+  /** The other way round: on the first LINK the greater CLASS. */
+  static void promise11_c_linkwiseRowsDoNotTouch() {
+    HandedLabels x = Nets.line(3);
+    x.mode(1, LINKWISE, 1);
+    x.mode(1, ASKED, 1);
+    x.end(3, 2);
+    x.end(0, 0);
+    x.ticks(5);
+    slip(x, "CLASS 3 to 0", 1, 0, 3, 16, 1);
+    slip(x, "CLASS 0 to 2, the same number", 1, 1, 0, 16, 1);
+  }
+
+  static void promise11_c_linkwiseInAllPlaces() {
+    HandedLabels x = Nets.wheel();
+    for (int box = 0; box < 7; box++) {
+      x.mode(box, LINKWISE, 1);
+    }
+    for (int c = 0; c < 4; c++) {
+      x.end(c, 6);
+    }
+    x.ticks(3);
+    for (int l = 0; l < 12; l++) {
+      for (int c = 0; c < 4; c++) {
+        due.is("LINK " + l + ", lesser BOX", x.handed(x.ofLink(l, 0), l, c, 0), 16 + c);
+        due.is("LINK " + l + ", greater BOX", x.handed(x.ofLink(l, 1), l, c, 0), 16 + c);
+      }
+    }
+  }
+
   static void promise11_c_linkwiseStaysOnItsLinkAlone() {
     HandedLabels x = Nets.line(2);
     x.mode(1, LINKWISE, 1);
