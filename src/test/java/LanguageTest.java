@@ -4,6 +4,8 @@ import java.lang.reflect.Method;
 import java.lang.reflect.Modifier;
 import java.nio.file.Files;
 import java.nio.file.Path;
+import java.util.ArrayDeque;
+import java.util.Deque;
 import java.util.List;
 import java.util.Set;
 import java.util.TreeSet;
@@ -20,11 +22,14 @@ public final class LanguageTest {
       "many(int)");
   private static final Set<String> CONSTANTS = Set.of("UNKNOWN", "OUTSIDE", "STATE", "FULL", "NONE");
   private static final List<String> RULED_OUT = List.of(
-      "\\bthrows?\\b", "\\btry\\b", "\\bcatch\\b", "\\bsynchronized\\b", "\\bassert\\b", "->", "::",
+      "\\bthrows?\\b", "\\btry\\b", "\\bcatch\\b", "\\bsynchronized\\b", "\\bassert\\b", "::",
       "\\bpackage\\b", "\\bprotected\\b", "\\bnative\\b", "\\bvolatile\\b", "\\bThread\\b",
       "\\bRandom\\b", "\\brandom\\b", "\\bcurrentTimeMillis\\b", "\\bnanoTime\\b", "Exact\\b",
-      "\\bhashCode\\b", "\\btoString\\b", "\\bstatic\\s*\\{", "\\bwhile\\s*\\(\\s*true", "@",
-      "\\bimport\\b", "\\bObject\\b", "\\bStream\\b", "\\bvar\\b");
+      "\\bhashCode\\b", "\\bstatic\\s*\\{", "\\bwhile\\s*\\(\\s*true", "@(?!Override\\b)",
+      "\\bimport\\s+(?!java\\.util\\.(ArrayList|List|Arrays|Iterator);)", "\\bObject\\b", "\\bStream\\b");
+  /** An arrow belongs to a switch, not to a lambda. */
+  private static final Pattern ARROW = Pattern.compile("(?m)^(?!\\s*(case\\b|default\\b)).*->");
+  private static final int LINES_OF_A_METHOD = 60;
 
   private static final Due due = new Due("LanguageTest");
 
@@ -98,17 +103,56 @@ public final class LanguageTest {
     }
   }
 
+  /** Its lines keep their numbers. */
+  private static String withoutComments(String source) {
+    Matcher comment = Pattern.compile("(?s)/\\*.*?\\*/|//[^\n]*").matcher(source);
+    return comment.replaceAll(m -> m.group().replaceAll("[^\n]", ""));
+  }
+
   private static void words() throws Exception {
     String source = Files.readString(Path.of("src/main/java/HandedLabels.java"));
-    String code = source.replaceAll("(?s)/\\*.*?\\*/", " ").replaceAll("//[^\n]*", " ");
+    String code = withoutComments(source);
     for (String word : RULED_OUT) {
       Matcher found = Pattern.compile(word).matcher(code);
       due.yes("ruled out: " + word, !found.find());
     }
+    due.yes("no lambda", !ARROW.matcher(code).find());
+    methodsStayShort(code);
     for (int i = 0; i < source.length(); i++) {
       if (source.charAt(i) > 126) {
         due.yes("a sign beyond 126 at " + i, false);
       }
     }
+  }
+
+  /** A method is a block right inside a class whose head ends with its parameters. */
+  private static void methodsStayShort(String code) {
+    Deque<String> open = new ArrayDeque<>();
+    int head = 0;
+    int line = 1;
+    int begun = 0;
+    int methods = 0;
+    for (int i = 0; i < code.length(); i++) {
+      char sign = code.charAt(i);
+      if (sign == '\n') {
+        line++;
+      } else if (sign == '{') {
+        String kind = kindOf(code.substring(head, i).trim(), open.peek());
+        begun = kind.equals("method") ? line : begun;
+        open.push(kind);
+      } else if (sign == '}' && open.pop().equals("method")) {
+        methods++;
+        due.yes("the method that begins in line " + begun + " is short", line - begun < LINES_OF_A_METHOD);
+      }
+      head = sign == '{' || sign == '}' || sign == ';' ? i + 1 : head;
+    }
+    due.yes("methods are found", methods >= FACE.size());
+  }
+
+  private static String kindOf(String head, String around) {
+    if (head.matches("(?s).*\\b(class|enum|interface|record)\\b.*")) {
+      return "class";
+    }
+    return head.endsWith(")") && "class".equals(around) ? "method" : "block";
   }
 }
